@@ -477,20 +477,16 @@ public final class LeastRue {
         final int[] price = new int[MOST_THINGS];
         final int[][] costs = new int[MOST_WORLDS][MOST_THINGS];
 
+        // POSTS, PRICE and costs are 0 already: nothing but ENDS is ever written behind the last THING
         void addThing(int lowEnd, int highEnd) {
-            int t = things;
-            low[t] = lowEnd;
-            high[t] = highEnd;
-            // an earlier THING of this number may have been taken away by a step back to an IMAGE
-            one[t] = 0;
-            other[t] = 0;
-            price[t] = 0;
-            for (int w = 0; w < MOST_WORLDS; w++) {
-                costs[w][t] = 0;
+            if (things < MOST_THINGS) {
+                low[things] = lowEnd;
+                high[things] = highEnd;
+                things++;
             }
-            things++;
         }
 
+        // whole rows, so that behind the last THING there is nothing left of others
         void copyFrom(Bench from) {
             things = from.things;
             kind = from.kind;
@@ -622,6 +618,7 @@ public final class LeastRue {
         }
     }
 
+    /** A row of bytes, shorts or ints; ints hold them all, cut when they are written. */
     private static final class Sheet {
         private final int[] row = new int[MOST_PLACES];
         private int sort;
@@ -817,7 +814,10 @@ public final class LeastRue {
             int dear = lowCosts[c] + gapSums.total(own);
             int least = dear;
             for (int x = 0; x < choices.size; x++) {
-                least = Math.min(least, lowCosts[x] + gapSums.total(choices.sets[x] & own));
+                // most are too dear even at their low ends, and need no more looks
+                if (lowCosts[x] < least) {
+                    least = Math.min(least, lowCosts[x] + gapSums.total(choices.sets[x] & own));
+                }
             }
             return dear - least;
         }
@@ -870,13 +870,11 @@ public final class LeastRue {
             boolean beaten = false;
             for (int x = 0; x < choices.size; x++) {
                 int set = choices.sets[x];
-                int against = lowCosts[x] + gapSums.total(set & ~own);
-                if (against <= cost) {
-                    inAsCheap |= set;
-                }
-                if (against < cost) {
-                    inCheaper |= set;
-                    beaten = true;
+                if (lowCosts[x] <= cost) {
+                    int against = lowCosts[x] + gapSums.total(set & ~own);
+                    inAsCheap |= against <= cost ? set : 0;
+                    inCheaper |= against < cost ? set : 0;
+                    beaten |= against < cost;
                 }
             }
             always &= own | inCheaper;
@@ -1072,6 +1070,7 @@ public final class LeastRue {
         }
     }
 
+    /** What is bought now and what is left to buy when the WORLD is known. */
     private static final class TwoSteps {
         private static final int MOST_SETS = 4096;
         /** Above any sum of costs, and far enough from the greatest int to add them to it. */
@@ -1139,13 +1138,20 @@ public final class LeastRue {
                 least[choices.sets[c]] = 0;
             }
             for (int t = 0; t < bench.things; t++) {
-                int bit = 1 << t;
-                for (int set = 0; set < end; set++) {
-                    if ((set & bit) == 0) {
-                        int without = least[set];
-                        int with = least[set | bit];
-                        least[set] = Math.min(without, with + cost[t]);
-                        least[set | bit] = Math.min(without, with);
+                settle(t, cost[t], end);
+            }
+        }
+
+        private void settle(int t, int cost, int end) {
+            int bit = 1 << t;
+            for (int start = 0; start < end; start += 2 * bit) {
+                for (int set = start; set < start + bit; set++) {
+                    int lacking = least[set];
+                    int having = least[set | bit];
+                    if (having >= lacking) {
+                        least[set | bit] = lacking;
+                    } else if (having + cost < lacking) {
+                        least[set] = having + cost;
                     }
                 }
             }

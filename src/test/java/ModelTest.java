@@ -5,6 +5,7 @@ import java.util.Random;
 public final class ModelTest {
     private static final int RUNS = 1500;
     private static final int CALLS = 512;
+    private static final int HEAPS = 300;
     private static final int[] EDGES = {-1, -2, 0, 1, 3, 4, 6, 7, 8, 11, 12, 13, 99, 100, 101, 999, 1000, 1001,
         4095, 4096, Integer.MAX_VALUE, Integer.MIN_VALUE, Integer.MAX_VALUE - 5, 1 << 30, 1 << 16, 255, 128};
 
@@ -20,6 +21,9 @@ public final class ModelTest {
         ModelTest test = new ModelTest();
         for (int run = 0; run < RUNS && !test.check.hasFailed(); run++) {
             test.run(run);
+        }
+        for (int heap = 0; heap < HEAPS && !test.check.hasFailed(); heap++) {
+            test.greatHeap(heap);
         }
         test.check.end();
     }
@@ -43,6 +47,48 @@ public final class ModelTest {
         if (check.hasFailed()) {
             System.out.println("run " + seed + ", all its calls:");
             trail.forEach(System.out::println);
+        }
+    }
+
+    /** Many CHOICES and two WORLDS that are at odds: a front and a hull of many points. */
+    private void greatHeap(int seed) {
+        random = new Random(seed);
+        real = new LeastRue();
+        model = new Model();
+        int things = 6 + random.nextInt(7);
+        int spread = seed % 2 == 0 ? 1000 : 30;
+        for (int t = 0; t < things; t++) {
+            int low = random.nextInt(500);
+            int high = low + random.nextInt(500);
+            compare("thing", real.thing(low, high), model.thing(low, high));
+            int price = random.nextInt(spread) / 2;
+            compare("price", real.price(t, price), model.price(t, price));
+        }
+        int k = 2 + random.nextInt(3);
+        compare("kind", real.kind(0, k), model.kind(0, k));
+        compare("sheet", real.sheet(0, 2, 24), model.sheet(0, 2, 24));
+        for (int i = 0; i < 12; i++) {
+            int v = random.nextInt(spread + 1);
+            int w = Math.max(0, spread - v - random.nextInt(1 + spread / 4));
+            compare("write", real.write(0, i, v), model.write(0, i, v));
+            compare("write", real.write(0, 12 + i, w), model.write(0, 12 + i, w));
+        }
+        compare("world", real.world(1, 0, 0), model.world(1, 0, 0));
+        compare("world", real.world(6, 0, 12), model.world(6, 0, 12));
+        for (int what = 0; what < 2; what++) {
+            compare("great lots", real.lots(1, 6, what), model.lots(1, 6, what));
+            compare("great lots turned", real.lots(6, 1, what), model.lots(6, 1, what));
+        }
+        int pairs = model.front(1, 6, -1);
+        compare("great front", real.front(1, 6, -1), pairs);
+        for (int i = 0; i <= pairs && i < 40; i++) {
+            compare("great front " + i, real.front(1, 6, i), model.front(1, 6, i));
+        }
+        compare("great bestOf", real.bestOf(), model.bestOf());
+        if (things < 10) {
+            compare("great first", real.first(), model.first());
+            compare("great best", real.best(), model.best());
+            compare("great many", real.many(), model.many());
         }
     }
 
