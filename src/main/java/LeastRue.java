@@ -860,28 +860,25 @@ public final class LeastRue {
             sorted = true;
         }
 
-        // a CHOICE stands best where its own THINGS are low and all others high: what does not
-        // beat (or reach) it there is not sure to beat (or reach) it
+        // a CHOICE stands best where its own THINGS are low and all others high. If it is beaten even
+        // there, it is never as cheap as any; if not, nothing is harder on the THINGS that it lacks
         private void sortByFairestWorldOf(int c) {
             int own = choices.sets[c];
-            int cost = lowCosts[c];
-            int inCheaper = 0;
-            int inAsCheap = 0;
-            boolean beaten = false;
+            int inAsCheap = own;
             for (int x = 0; x < choices.size; x++) {
                 int set = choices.sets[x];
-                if (lowCosts[x] <= cost) {
+                // most are too dear even at their low ends, and need no more looks
+                if (lowCosts[x] <= lowCosts[c]) {
                     int against = lowCosts[x] + gapSums.total(set & ~own);
-                    inAsCheap |= against <= cost ? set : 0;
-                    inCheaper |= against < cost ? set : 0;
-                    beaten |= against < cost;
+                    if (against < lowCosts[c]) {
+                        return;
+                    }
+                    inAsCheap |= against == lowCosts[c] ? set : 0;
                 }
             }
-            always &= own | inCheaper;
-            sure &= own | inAsCheap;
-            if (!beaten) {
-                may |= own;
-            }
+            always &= own;
+            sure &= inAsCheap;
+            may |= own;
         }
     }
 

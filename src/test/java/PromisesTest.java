@@ -1,8 +1,5 @@
 /** Each promise of the document by hand: ordinary inputs, the edges that it names, wrong inputs. */
-public final class PromisesTest {
-    private static final int MIN = Integer.MIN_VALUE;
-    private static final int MAX = Integer.MAX_VALUE;
-
+public final class PromisesTest extends Benches {
     private final Check check = new Check("PromisesTest");
 
     public static void main(String[] args) {
@@ -44,36 +41,6 @@ public final class PromisesTest {
 
     private void due(int promise, String call, long got, long want) {
         check.due("promise " + promise + ": " + call, got, want);
-    }
-
-    private static LeastRue heap(int k, int[]... ends) {
-        LeastRue x = new LeastRue();
-        for (int[] e : ends) {
-            x.thing(e[0], e[1]);
-        }
-        x.kind(0, k);
-        return x;
-    }
-
-    private static LeastRue roads(int[]... posts) {
-        LeastRue x = new LeastRue();
-        for (int t = 0; t < posts.length; t++) {
-            x.thing(0, 0);
-            x.posts(t, posts[t][0], posts[t][1]);
-        }
-        return x;
-    }
-
-    private static void tell(LeastRue x, int w, int... costs) {
-        x.sheet(3, 2, costs.length);
-        for (int i = 0; i < costs.length; i++) {
-            x.write(3, i, costs[i]);
-        }
-        x.world(w, 3, 0);
-    }
-
-    private static int[] ends(int low, int high) {
-        return new int[] {low, high};
     }
 
     private void newObject() {
@@ -294,21 +261,16 @@ public final class PromisesTest {
         due(8, "far out", x.write(0, MAX, 1), -3);
         x.sheet(1, 1, 1);
         x.sheet(2, 2, 1);
-        due(8, "byte 127", writtenAs(x, 0, 127), 127);
-        due(8, "byte 128 is below 0", writtenAs(x, 0, 128), -1);
-        due(8, "byte 256 + 5", writtenAs(x, 0, 261), 5);
-        due(8, "byte -256", writtenAs(x, 0, -256), 0);
-        due(8, "short 1000", writtenAs(x, 1, 1000), 1000);
-        due(8, "short 65536 + 7", writtenAs(x, 1, 65543), 7);
-        due(8, "short 32768 is below 0", writtenAs(x, 1, 32768), -1);
-        due(8, "int 1000", writtenAs(x, 2, 1000), 1000);
-        due(8, "int 65536 + 7", writtenAs(x, 2, 65543), -1);
+        due(8, "byte 127", readBack(x, 0, 127), 127);
+        due(8, "byte 128 is below 0", readBack(x, 0, 128), -1);
+        due(8, "byte 256 + 5", readBack(x, 0, 261), 5);
+        due(8, "byte -256", readBack(x, 0, -256), 0);
+        due(8, "short 1000", readBack(x, 1, 1000), 1000);
+        due(8, "short 65536 + 7", readBack(x, 1, 65543), 7);
+        due(8, "short 32768 is below 0", readBack(x, 1, 32768), -1);
+        due(8, "int 1000", readBack(x, 2, 1000), 1000);
+        due(8, "int 65536 + 7", readBack(x, 2, 65543), -1);
         due(8, "an empty sheet has no place", x.sheet(3, 0, 0) + x.write(3, 0, 0), -3);
-    }
-
-    private static int writtenAs(LeastRue x, int s, int v) {
-        x.write(s, 0, v);
-        return x.world(0, s, 0) < 0 ? -1 : x.of(0, 10);
     }
 
     private void worlds() {
