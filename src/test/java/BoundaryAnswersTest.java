@@ -554,6 +554,22 @@ public final class BoundaryAnswersTest extends Sentences {
         due("both are: the lower bits", x.first(), 1);
         tell(x, 0, 0, 0);
         due("free later", x.first(), 0);
+        x.price(0, 6);
+        x.price(1, 6);
+        tell(x, 0, 5, 8);
+        due("the cheaper one later", x.first(), 0);
+        tell(x, 0, 7, 6);
+        due("as dear as now", x.first(), 0);
+        tell(x, 0, 7, 8);
+        due("both dearer later", x.first(), 1);
+        LeastRue ways = roads(road(0, 1), road(1, 2), road(0, 2));
+        ways.kind(1, 2);
+        ways.price(0, 1);
+        ways.price(1, 50);
+        ways.price(2, 50);
+        tell(ways, 0, 10, 0, 10);
+        tell(ways, 1, 10, 10, 0);
+        due("a road that is bought in vain in one of the worlds", ways.first(), 1);
 
         sentence("Promise 32: -2; -6");
         x.kind(0, 3);

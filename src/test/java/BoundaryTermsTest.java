@@ -605,6 +605,7 @@ public final class BoundaryTermsTest extends Sentences {
         fraction(three, new int[] {0, 10, 6}, new int[] {10, 0, 6}, 5, 1);
         LeastRue hull = alike(5, 1, 0, 0);
         fraction(hull, new int[] {0, 2, 5, 9, 10}, new int[] {10, 6, 3, 0, 10}, 4, 1);
+        fraction(hull, new int[] {5, 2, 0, 9, 10}, new int[] {3, 6, 10, 0, 10}, 4, 1);
         fraction(hull, new int[] {12, 6, 0, 3, 7}, new int[] {0, 3, 10, 5, 7}, 21, 5);
         LeastRue four = alike(8, 4, 0, 0);
         fraction(four, new int[] {0, 0, 0, 0, 1000, 1000, 1000, 999}, new int[] {1000, 1000, 1000, 1000, 0, 0, 0, 0},
